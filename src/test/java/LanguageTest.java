@@ -1,0 +1,52 @@
+import java.io.IOException;
+import java.nio.file.Files;
+import java.nio.file.Path;
+import java.util.List;
+import java.util.regex.Matcher;
+import java.util.regex.Pattern;
+
+/** What of ../shared/LANGUAGE.md a look at the words of the program can tell. */
+public final class LanguageTest {
+    private static final Path PROGRAM = Path.of("src/main/java/TurnedAbout.java");
+
+    public static void main(String[] args) throws IOException {
+        String source = Files.readString(PROGRAM);
+        Due.holds("signs 1 to 127", source.chars().allMatch(c -> c >= 1 && c <= 127));
+        String code = source.replaceAll("(?s)/\\*.*?\\*/", "").replaceAll("//.*", "");
+        String[] ruledOut = {"throw", "throws", "try", "catch", "finally", "synchronized", "assert", "protected",
+            "equals", "hashCode", "toString", "package", "Object", "Exact", "System\\.[^a]", "->", "::", "@"};
+        for (String word : ruledOut) {
+            String pattern = Character.isLetter(word.charAt(0)) ? "\\b" + word + "\\b" : word;
+            Due.holds("no " + word, !Pattern.compile(pattern).matcher(code).find());
+        }
+        classes(code);
+        methods(Files.readAllLines(PROGRAM));
+        Due.end();
+    }
+
+    private static void classes(String code) {
+        Matcher inside = Pattern.compile("\\n    (.*)\\bclass \\w+").matcher(code);
+        int count = 1;
+        while (inside.find()) {
+            count++;
+            Due.holds(inside.group(), inside.group(1).startsWith("private static "));
+        }
+        Due.holds(count + " classes", count <= 12);
+    }
+
+    /** Every method has sixty lines and seven parameters at most. */
+    private static void methods(List<String> lines) {
+        Pattern head = Pattern.compile("( {4}| {8})[a-zA-Z][\\w\\[\\] ]* \\w+\\(([^()]*)\\) \\{");
+        for (int i = 0; i < lines.size(); i++) {
+            Matcher method = head.matcher(lines.get(i));
+            if (method.matches()) {
+                int end = i;
+                while (!lines.get(end).equals(method.group(1) + "}")) {
+                    end++;
+                }
+                Due.holds("sixty lines: " + lines.get(i), end - i < 60);
+                Due.holds("seven parameters: " + lines.get(i), method.group(2).split(",").length <= 7);
+            }
+        }
+    }
+}
