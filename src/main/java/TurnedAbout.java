@@ -973,21 +973,13 @@ public final class TurnedAbout {
                 return x;
             }
             int count = howMany(x, base);
-            long above = 1;
-            for (int i = 0; i < count - count / 2; i++) {
-                above *= base;
-            }
             long head = x;
-            long all = above;
             for (int i = 0; i < count / 2; i++) {
                 head /= base;
-                all *= base;
             }
             long alike = mirrored(head, count, base);
-            if (alike >= x) {
-                return alike;
-            }
-            return head + 1 < above ? mirrored(head + 1, count, base) : all + 1;
+            // a head of the greatest figures alone is never too small, so that one more has as many figures
+            return alike >= x ? alike : mirrored(head + 1, count, base);
         }
 
         /** A number of so many figures that reads alike and begins with the head (its first half and the middle). */
@@ -1064,6 +1056,7 @@ public final class TurnedAbout {
             numbers = new long[SLATE_ROOM];
         }
 
+        /** What stands behind the counts comes, too: values that no law has yet are 0 there. */
         void takeOver(State other) {
             base = other.base;
             seed = other.seed;
@@ -1095,10 +1088,6 @@ public final class TurnedAbout {
             int place = lawCount;
             rules[place] = newLaw(kind, place, a);
             lawCount++;
-            // values of an earlier law at this place may be left from before a restore
-            for (int figure = 0; figure < FIGURE_SORTS; figure++) {
-                tellValue(place, figure, 0);
-            }
             return place;
         }
 

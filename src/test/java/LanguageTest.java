@@ -1,7 +1,9 @@
 import java.io.IOException;
 import java.nio.file.Files;
 import java.nio.file.Path;
+import java.util.HashSet;
 import java.util.List;
+import java.util.Set;
 import java.util.regex.Matcher;
 import java.util.regex.Pattern;
 
@@ -20,6 +22,7 @@ public final class LanguageTest {
             Due.holds("no " + word, !Pattern.compile(pattern).matcher(code).find());
         }
         classes(code);
+        names(code);
         methods(Files.readAllLines(PROGRAM));
         Due.end();
     }
@@ -32,6 +35,19 @@ public final class LanguageTest {
             Due.holds(inside.group(), inside.group(1).startsWith("private static "));
         }
         Due.holds(count + " classes", count <= 12);
+    }
+
+    /** No method inside bears the name of one of the face. */
+    private static void names(String code) {
+        Matcher head = Pattern.compile("\\n(?: {4}| {8})([a-zA-Z][\\w\\[\\] ]*) (\\w+)\\([^()]*\\) \\{").matcher(code);
+        Set<String> face = new HashSet<>();
+        Set<String> inside = new HashSet<>();
+        while (head.find()) {
+            (head.group(1).startsWith("public ") ? face : inside).add(head.group(2));
+        }
+        Due.is("methods of the face", face.size(), 44);
+        inside.retainAll(face);
+        Due.holds("inside, too: " + inside, inside.isEmpty());
     }
 
     /** Every method has sixty lines and seven parameters at most. */

@@ -87,6 +87,15 @@ public final class NumbersTest {
         Due.is("22: itself", x.meet(0, 196, 196), 196);
         Due.is("22: never", x.meet(0, 196, 89), -5);
         Due.is("22: in the RUN of the other", x.meet(0, 887, 196), 887);
+        TurnedAbout far = new TurnedAbout();
+        far.base(2);
+        far.law(0, 1);
+        long at200 = far.after(0, 652, 200);
+        long at201 = far.after(0, 652, 201);
+        Due.is("22: place 200", far.meet(0, 652, at200), at200);
+        Due.is("22: place 200 of the other", far.meet(0, at200, 652), at200);
+        Due.is("22: place 201", far.meet(0, 652, at201), -5);
+        Due.is("22: place 201 of the other", far.meet(0, at201, 652), -5);
         Due.is("23: of 0 by TAKE", x.source(1, 0, NONE), 9 + 10 + 90 + 90);
         Due.is("23: the first", x.source(1, 0, 0), 0);
         Due.is("23: the last", x.source(1, 0, 198), 9999);
@@ -170,7 +179,7 @@ public final class NumbersTest {
             Due.is("26: no law", x.many(law, -1, -1, -2), -1);
             Due.is("27: no law", x.rounds(law, 0), -1);
             Due.is("30: no law", x.began(law, -1, 0, -2), -1);
-            Due.is("refused -1", x.status(11), 12);
+            Due.is("10 to 32: refused -1", x.status(11), 12);
         }
     }
 

@@ -146,6 +146,11 @@ public final class ShelvesTest {
         x.row(1, 1, 4);
         Due.is("6: over a row", x.show(1, 0), 1);
         Due.is("7: holds the law", x.holds(1), 0);
+        Due.numbers(x, 2, 3, 5, 6);
+        x.show(2, 0);
+        Due.is("5: of a law where a row was", x.element(2, 0), 0);
+        x.show(2, NONE);
+        Due.is("5: of nothing where a row was", x.element(2, 1), 0);
         Due.is("6: refused", x.status(11), 5);
     }
 
