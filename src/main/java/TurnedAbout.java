@@ -493,6 +493,9 @@ public final class TurnedAbout {
 
     /** The RUN is kept up to place last, and its last number has come as many places ahead as the ROUND is long. */
     private boolean keepRound(int last, int length) {
+        if (length < 1 || length > last || last >= run.length) {
+            return false;
+        }
         int place = 0;
         while (place < last - length && run[place] != run[place + length]) {
             place++;

@@ -22,6 +22,13 @@ final class Due {
         }
     }
 
+    /** How many calls were refused by -1, -2, .. -7. */
+    static void refusals(String promise, TurnedAbout x, int... wants) {
+        for (int i = 0; i < 7; i++) {
+            is(promise + ": refused -" + (i + 1), x.status(11 + i), i < wants.length ? wants[i] : 0);
+        }
+    }
+
     static void end() {
         System.out.println(wrong == 0 ? told + " answers are as due" : wrong + " of " + told + " answers are not as due");
         if (wrong != 0) {

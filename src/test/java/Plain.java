@@ -18,6 +18,10 @@ final class Plain {
         this.values = values;
     }
 
+    static Plain law(int base, int kind, int a) {
+        return new Plain(base, kind, a, new int[10]);
+    }
+
     static String figures(long x, int base) {
         return Long.toString(x, base);
     }
