@@ -56,7 +56,6 @@ public final class TurnedAbout {
     private static final int BITS = 64;
 
     private final State now;
-    private final State trial;
     private final State imaged;
     private boolean imageTaken;
     private final Shelf[] shelves;
@@ -73,14 +72,13 @@ public final class TurnedAbout {
 
     public TurnedAbout() {
         now = new State();
-        trial = new State();
         imaged = new State();
         shelves = new Shelf[SHELF_ROOM];
         for (int s = 0; s < shelves.length; s++) {
             shelves[s] = new Shelf();
         }
         refusals = new int[REFUSAL_SORTS];
-        reader = new Reader(trial);
+        reader = new Reader();
         latestFault = NONE;
         ran = new int[TRACE_ROOM + 1];
         run = new long[MOST_PLACE + 1];
@@ -277,13 +275,12 @@ public final class TurnedAbout {
         if (no != 0) {
             return refuse(no);
         }
-        trial.takeOver(now);
-        int items = reader.read(shelf);
+        int items = reader.read(shelf, now);
         latestFault = reader.faultPlace;
         if (latestFault != NONE) {
             return refuse(WRONG);
         }
-        now.takeOver(trial);
+        now.takeOver(reader.state);
         return items;
     }
 
@@ -1241,25 +1238,26 @@ public final class TurnedAbout {
         }
     }
 
-    /** Reads a text and carries it out on a state of trial, up to the first fault. */
+    /** Reads a text and carries it out on a state of its own, up to the first fault. */
     private static final class Reader {
         private static final int MOST_DIGITS = 6;
         private static final int ANY_NUMBER = 999999;
 
-        private final State state;
+        final State state;
         private Shelf letters;
         private int at;
         private int numberRead;
         private int numberPlace;
         int faultPlace;
 
-        Reader(State state) {
-            this.state = state;
+        Reader() {
+            state = new State();
             faultPlace = NONE;
         }
 
         /** How many items; if there is a fault, its place is kept. */
-        int read(Shelf row) {
+        int read(Shelf row, State from) {
+            state.takeOver(from);
             letters = row;
             at = 0;
             faultPlace = NONE;
