@@ -23,6 +23,7 @@ public final class LanguageTest {
         }
         classes(code);
         names(code);
+        constructors(code);
         methods(Files.readAllLines(PROGRAM));
         Due.end();
     }
@@ -48,6 +49,18 @@ public final class LanguageTest {
         Due.is("methods of the face", face.size(), 44);
         inside.retainAll(face);
         Due.holds("inside, too: " + inside, inside.isEmpty());
+    }
+
+    /** A constructor hands out nothing of the object that it makes: neither the object nor a part of it. */
+    private static void constructors(String code) {
+        Matcher made = Pattern.compile("(?s)\\n( {4}| {8})(?:public )?([A-Z]\\w*)\\([^()]*\\) \\{(.*?)\\n\\1\\}").matcher(code);
+        int count = 0;
+        while (made.find()) {
+            count++;
+            Due.holds(made.group(2) + " hands itself out", !Pattern.compile("[(,=] *this\\b(?!\\.)").matcher(made.group(3)).find());
+            Due.holds(made.group(2) + " hands a part out", !Pattern.compile("new \\w+\\([^)]").matcher(made.group(3)).find());
+        }
+        Due.is("constructors", count, 11);
     }
 
     /** Every method has sixty lines and seven parameters at most. */
